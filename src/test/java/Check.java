@@ -8,9 +8,10 @@ final class Check {
     static final int[] NOT_0_TO_7 = {-1, 8, 15, 256, Integer.MIN_VALUE, Integer.MAX_VALUE};
     static final int[] NOT_0_TO_255 = {-1, 256, 511, -255, Integer.MIN_VALUE, Integer.MAX_VALUE};
 
-    // Two rasters that differ at many pixels, so that a lost or mixed-up value shows.
-    static final IntBinaryOperator BUSY_RASTER = (r, c) -> (r * 37 + c * 11 + r * c) & 255;
-    static final IntBinaryOperator BUSY_SPARE = (r, c) -> (r * 5 + c * 91 + r * c) & 255;
+    // Two rasters that differ at many pixels, so that a lost or mixed-up value shows;
+    // every pattern has 0 at (0, 0), so that pixel is given a value of its own.
+    static final IntBinaryOperator BUSY_RASTER = (r, c) -> r + c == 0 ? 201 : (r * 37 + c * 11 + r * c) & 255;
+    static final IntBinaryOperator BUSY_SPARE = (r, c) -> r + c == 0 ? 102 : (r * 5 + c * 91 + r * c) & 255;
 
     private int wrong = 0;
 
@@ -28,12 +29,14 @@ final class Check {
         }
     }
 
-    /** A new object with the two busy rasters, after three calls. */
+    /** A new object with the two busy rasters, after five calls. */
     static BoxFilters busy() {
         BoxFilters x = new BoxFilters();
         x.pattern(5, 91);
+        x.set(0, 0, 102);
         x.exchange();
         x.pattern(37, 11);
+        x.set(0, 0, 201);
         return x;
     }
 

@@ -55,10 +55,7 @@ public final class CompareTest {
     }
 
     private static void onBusyRasters(Check check) {
-        Model model = new Model();
-        model.pattern(5, 91);
-        model.exchange();
-        model.pattern(37, 11);
+        Model model = Model.busy();
         check.changesNothing("equal()", BoxFilters::equal, model.equal());
         check.changesNothing("above()", BoxFilters::above, model.above());
     }

@@ -57,8 +57,7 @@ final class FilterCheck {
     }
 
     private void agreesWithModel(ModelFilter due, int w, int h) {
-        Model model = new Model();
-        model.pattern(37, 11);
+        Model model = Model.busy();
         int changed = model.become(due.apply(model.raster, w, h));
         check.bothRasters(
             call(w, h),

@@ -8,6 +8,16 @@ final class Model {
     int[][] raster = new int[16][16];
     int[][] spare = new int[16][16];
 
+    /** The state of Check.busy(). */
+    static Model busy() {
+        Model model = new Model();
+        for (int i = 0; i < 256; i++) {
+            model.raster[i / 16][i % 16] = Check.BUSY_RASTER.applyAsInt(i / 16, i % 16);
+            model.spare[i / 16][i % 16] = Check.BUSY_SPARE.applyAsInt(i / 16, i % 16);
+        }
+        return model;
+    }
+
     static int[][] copyOf(int[][] from) {
         return Arrays.stream(from).map(int[]::clone).toArray(int[][]::new);
     }

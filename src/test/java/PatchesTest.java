@@ -63,7 +63,7 @@ public final class PatchesTest {
         counts(check, "spiral", drawn(SPIRAL), 1);
         counts(check, "rings and dots", drawn(RINGS_AND_DOTS), 13);
         looksAtTheRasterAlone(check);
-        changesNothingEvenIfCalledAgain(check);
+        check.changesNothing("patches()", BoxFilters::patches, Model.busy().patches());
         check.end();
     }
 
@@ -93,12 +93,5 @@ public final class PatchesTest {
         x.exchange();
         x.set(4, 5, 1);
         check.due("two dots joined: patches()", x.patches(), 1);
-    }
-
-    private static void changesNothingEvenIfCalledAgain(Check check) {
-        Model model = new Model();
-        model.pattern(37, 11);
-        check.changesNothing("patches()", BoxFilters::patches, model.patches());
-        check.changesNothing("patches() a second time", x -> x.patches() * 0 + x.patches(), model.patches());
     }
 }

@@ -8,8 +8,7 @@ public final class SumTest {
         check.due("sum() of 255s", full.sum(), 65280);
         full.exchange();
         check.due("sum() with the 255s in the spare raster", full.sum(), 0);
-        Model model = new Model();
-        model.pattern(37, 11);
+        Model model = Model.busy();
         check.changesNothing("sum()", BoxFilters::sum, model.sum());
         check.end();
     }

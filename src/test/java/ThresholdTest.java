@@ -34,8 +34,7 @@ public final class ThresholdTest {
     }
 
     private static void allPixels(Check check, int bound) {
-        Model model = new Model();
-        model.pattern(37, 11);
+        Model model = Model.busy();
         int bright = model.threshold(bound);
         String call = "threshold(" + bound + ")";
         check.bothRasters(
