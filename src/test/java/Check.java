@@ -4,14 +4,13 @@ import java.util.function.ToIntFunction;
 
 /** Counts and prints the answers that are not as due, and ends a test with exit code 1 if there was one. */
 final class Check {
-    static final int[] NOT_0_TO_15 = {-1, 16, 255, -256, Integer.MIN_VALUE, Integer.MAX_VALUE};
+    // The nearest number on each side of the range, the ends of int, and numbers that would fit
+    // if only their low bits, or only row * 16 + column, were looked at.
+    static final int[] NOT_0_TO_15 = {-1, 16, 255, -256, 1 << 28, Integer.MIN_VALUE, Integer.MAX_VALUE};
     static final int[] NOT_0_TO_7 = {-1, 8, 15, 256, Integer.MIN_VALUE, Integer.MAX_VALUE};
     static final int[] NOT_0_TO_255 = {-1, 256, 511, -255, Integer.MIN_VALUE, Integer.MAX_VALUE};
 
-    // Two rasters that differ at many pixels, so that a lost or mixed-up value shows;
-    // every pattern has 0 at (0, 0), so that pixel is given a value of its own.
-    static final IntBinaryOperator BUSY_RASTER = (r, c) -> r + c == 0 ? 201 : (r * 37 + c * 11 + r * c) & 255;
-    static final IntBinaryOperator BUSY_SPARE = (r, c) -> r + c == 0 ? 102 : (r * 5 + c * 91 + r * c) & 255;
+    static final int[] FIRST_AND_LAST = {0, 15};
 
     private int wrong = 0;
 
@@ -29,22 +28,27 @@ final class Check {
         }
     }
 
-    /** A new object with the two busy rasters, after five calls. */
-    static BoxFilters busy() {
+    /** A new object with these two rasters, after five calls at most. */
+    static BoxFilters made(Picture raster, Picture spare) {
         BoxFilters x = new BoxFilters();
-        x.pattern(5, 91);
-        x.set(0, 0, 102);
+        spare.make(x);
         x.exchange();
-        x.pattern(37, 11);
-        x.set(0, 0, 201);
+        raster.make(x);
         return x;
     }
 
-    /** Sets every pixel, in 256 calls. */
-    static void fill(BoxFilters x, IntBinaryOperator value) {
+    /** A new object with two busy rasters, after five calls. */
+    static BoxFilters busy() {
+        return made(Picture.BUSY, Picture.OTHER);
+    }
+
+    /** Gives every pixel of a new object its value, in one call for each that is not 0 anyway. */
+    static void fill(BoxFilters fresh, IntBinaryOperator value) {
         for (int r = 0; r < 16; r++) {
             for (int c = 0; c < 16; c++) {
-                x.set(r, c, value.applyAsInt(r, c));
+                if (value.applyAsInt(r, c) != 0) {
+                    fresh.set(r, c, value.applyAsInt(r, c));
+                }
             }
         }
     }
@@ -59,21 +63,35 @@ final class Check {
     }
 
     /**
-     * Makes the calls on two busy objects and looks at the raster of one and the spare raster of the other:
-     * looking at both on one object would be more than the 512 calls that the document allows.
+     * Makes the calls on two objects that start alike and looks at the raster of one and the spare raster of the
+     * other: looking at both on one object would be more than the 512 calls that the document allows.
      */
-    void bothRasters(String calls, Consumer<BoxFilters> run, IntBinaryOperator wantRaster, IntBinaryOperator wantSpare) {
-        BoxFilters forRaster = busy();
+    void bothRasters(
+            String calls, Picture raster, Picture spare, Consumer<BoxFilters> run,
+            IntBinaryOperator wantRaster, IntBinaryOperator wantSpare) {
+        String start = raster + " over " + spare + ", " + calls;
+        BoxFilters forRaster = made(raster, spare);
         run.accept(forRaster);
-        raster(calls + ", raster", forRaster, wantRaster);
-        BoxFilters forSpare = busy();
+        raster(start + ", raster", forRaster, wantRaster);
+        BoxFilters forSpare = made(raster, spare);
         run.accept(forSpare);
         forSpare.exchange();
-        raster(calls + ", spare", forSpare, wantSpare);
+        raster(start + ", spare", forSpare, wantSpare);
     }
 
-    /** The call gives this answer on a busy object and changes neither raster. */
+    /** The same on two busy rasters. */
+    void bothRasters(String calls, Consumer<BoxFilters> run, IntBinaryOperator wantRaster, IntBinaryOperator wantSpare) {
+        bothRasters(calls, Picture.BUSY, Picture.OTHER, run, wantRaster, wantSpare);
+    }
+
+    /** The call gives this answer on these rasters and changes neither of them. */
+    void changesNothing(String call, Picture raster, Picture spare, ToIntFunction<BoxFilters> made, int want) {
+        String start = raster + " over " + spare + ", " + call;
+        bothRasters(call, raster, spare, x -> due(start, made.applyAsInt(x), want), raster, spare);
+    }
+
+    /** The same on two busy rasters. */
     void changesNothing(String call, ToIntFunction<BoxFilters> made, int want) {
-        bothRasters(call, x -> due(call, made.applyAsInt(x), want), BUSY_RASTER, BUSY_SPARE);
+        changesNothing(call, Picture.BUSY, Picture.OTHER, made, want);
     }
 }

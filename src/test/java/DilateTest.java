@@ -6,17 +6,17 @@ public final class DilateTest {
         dilate.turns(x -> x.set(5, 9, 200), 2, 1, (r, c) -> r >= 4 && r <= 6 && c >= 7 && c <= 11 ? 200 : 0, 14);
         dilate.turns(x -> x.set(5, 9, 200), 0, 3, (r, c) -> r >= 2 && r <= 8 && c == 9 ? 200 : 0, 6);
         dilate.turns(x -> x.set(5, 9, 200), 3, 0, (r, c) -> r == 5 && c >= 6 && c <= 12 ? 200 : 0, 6);
-        dilate.turns(DilateTest::twoBesideEachOther, 1, 0, DilateTest::twoDilated, 3);
+        dilate.turns(DilateTest::twoNearEachOther, 1, 0, DilateTest::twoDilated, 3);
         dilate.turns(DilateTest::oppositeCorners, 7, 7, DilateTest::cornersDilated, 126);
-        dilate.turns(x -> x.threshold(0), 7, 7, (r, c) -> 255, 0);
-        dilate.turns(x -> x.threshold(1), 7, 7, (r, c) -> 0, 0);
+        takesTheGreatest(dilate);
         dilate.refusesWrongSizes();
         dilate.isIdleAtSizeZero();
+        dilate.isIdleOnEvenRasters();
         dilate.agreesWithModelAtAllSizes(Model::dilation);
         check.end();
     }
 
-    private static void twoBesideEachOther(BoxFilters x) {
+    private static void twoNearEachOther(BoxFilters x) {
         x.set(3, 3, 10);
         x.set(3, 5, 20);
     }
@@ -38,5 +38,18 @@ public final class DilateTest {
             return 255;
         }
         return r >= 8 && c >= 8 ? 1 : 0;
+    }
+
+    /** Of two values that differ by 1 alone, from 0 and 1 up to 254 and 255; the least lies in the corner. */
+    private static void takesTheGreatest(FilterCheck dilate) {
+        for (int value = 0; value < 255; value++) {
+            int less = value;
+            dilate.turns(x -> inTheCorner(x, less), 1, 0, (r, c) -> r == 0 && c <= 2 ? less + 1 : 0, 2);
+        }
+    }
+
+    private static void inTheCorner(BoxFilters x, int less) {
+        x.set(0, 0, less);
+        x.set(0, 1, less + 1);
     }
 }

@@ -8,14 +8,19 @@ final class Model {
     int[][] raster = new int[16][16];
     int[][] spare = new int[16][16];
 
-    /** The state of Check.busy(). */
-    static Model busy() {
+    /** The state of Check.made(raster, spare). */
+    static Model made(Picture raster, Picture spare) {
         Model model = new Model();
         for (int i = 0; i < 256; i++) {
-            model.raster[i / 16][i % 16] = Check.BUSY_RASTER.applyAsInt(i / 16, i % 16);
-            model.spare[i / 16][i % 16] = Check.BUSY_SPARE.applyAsInt(i / 16, i % 16);
+            model.raster[i / 16][i % 16] = raster.applyAsInt(i / 16, i % 16);
+            model.spare[i / 16][i % 16] = spare.applyAsInt(i / 16, i % 16);
         }
         return model;
+    }
+
+    /** The state of Check.busy(). */
+    static Model busy() {
+        return made(Picture.BUSY, Picture.OTHER);
     }
 
     static int[][] copyOf(int[][] from) {

@@ -1,8 +1,9 @@
 /** Long mixed runs of calls, each answer held against the model; all promises together. */
 public final class ModelTest {
-    private static final int RUNS = 400;
-    // With the 256 calls that look at every pixel and one exchange this stays within the document's 512 calls.
-    private static final int CALLS = 250;
+    private static final int RUNS = 300;
+    // With one exchange and the 256 calls that look at every pixel these are the document's 512 calls.
+    private static final int CALLS = 255;
+    private static final int CALLS_WITHOUT_A_LOOK = 512;
     private static final int[] ODD_NUMBERS = {-1, 16, 8, 256, Integer.MIN_VALUE, Integer.MAX_VALUE};
 
     private final Check check;
@@ -20,15 +21,20 @@ public final class ModelTest {
     public static void main(String[] args) {
         Check check = new Check();
         for (int run = 0; run < RUNS; run++) {
-            new ModelTest(check, run).go();
+            new ModelTest(check, run).goAndLook();
+            new ModelTest(check, RUNS + run).go(CALLS_WITHOUT_A_LOOK);
         }
         check.end();
     }
 
-    private void go() {
-        for (int i = 0; i < CALLS; i++) {
+    private void go(int calls) {
+        for (int i = 0; i < calls; i++) {
             call();
         }
+    }
+
+    private void goAndLook() {
+        go(CALLS);
         if (run % 2 == 1) {
             x.exchange();
             model.exchange();
