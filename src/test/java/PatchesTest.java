@@ -44,6 +44,7 @@ public final class PatchesTest {
         Check check = new Check();
         noneAndAll(check);
         pixelsThatTouchByCornersAlone(check);
+        farEndsThatTouchByCornersAlone(check);
         everyPixelAlone(check);
         everyTwoPixels(check);
         everyValueAbove0(check);
@@ -69,6 +70,32 @@ public final class PatchesTest {
         counts(check, "quarters by a corner", (r, c) -> r < 8 == c < 8 ? 1 : 0, 2);
         counts(check, "other quarters by a corner", (r, c) -> r < 8 == c < 8 ? 0 : 1, 2);
         counts(check, "quarters joined by one pixel", (r, c) -> r < 8 == c < 8 || r == 7 && c == 8 ? 1 : 0, 1);
+    }
+
+    /**
+     * Far from where a set begins its pixels touch others by a corner, or lie at the other end of a row or column;
+     * turned and mirrored, since a search that goes through the rows in turn may err in one direction alone.
+     */
+    private static void farEndsThatTouchByCornersAlone(Check check) {
+        countsAllWays(check, "hook with a dot by its end",
+            (r, c) -> r <= 4 && c == 6 || r == 4 && c >= 3 && c <= 6 || r == 3 && c == 2 ? 1 : 0, 2);
+        countsAllWays(check, "two sides with a dot across",
+            (r, c) -> c == 0 || r == 15 && c <= 5 || r == 0 && c == 5 ? 1 : 0, 2);
+        countsAllWays(check, "start of a row with a dot at the end of the one before",
+            (r, c) -> r <= 5 && c == 0 || r == 4 && c == 15 ? 1 : 0, 2);
+    }
+
+    private static void countsAllWays(Check check, String name, IntBinaryOperator value, int want) {
+        IntBinaryOperator turned = (r, c) -> value.applyAsInt(c, r);
+        countsMirrored(check, name, value, want);
+        countsMirrored(check, name + ", rows as columns", turned, want);
+    }
+
+    private static void countsMirrored(Check check, String name, IntBinaryOperator value, int want) {
+        counts(check, name, value, want);
+        counts(check, name + ", upside down", (r, c) -> value.applyAsInt(15 - r, c), want);
+        counts(check, name + ", left to right", (r, c) -> value.applyAsInt(r, 15 - c), want);
+        counts(check, name + ", both mirrored", (r, c) -> value.applyAsInt(15 - r, 15 - c), want);
     }
 
     private static void everyPixelAlone(Check check) {
@@ -117,9 +144,9 @@ public final class PatchesTest {
         counts(check, "comb from the right", (r, c) -> c == 15 || r % 2 == 0 ? 9 : 0, 1);
         counts(check, "stripes along rows", (r, c) -> r % 2, 8);
         counts(check, "stripes along columns", (r, c) -> c % 2, 8);
-        counts(check, "snake", PatchesTest::snake, 1);
-        counts(check, "spiral", drawn(SPIRAL), 1);
-        counts(check, "rings and dots", drawn(RINGS_AND_DOTS), 13);
+        countsAllWays(check, "snake", PatchesTest::snake, 1);
+        countsAllWays(check, "spiral", drawn(SPIRAL), 1);
+        countsAllWays(check, "rings and dots", drawn(RINGS_AND_DOTS), 13);
     }
 
     private static void rowsDoNotGoOnInTheNext(Check check) {

@@ -15,19 +15,23 @@ public final class RefusedTest {
         BAD_PIXEL.put("set(0, 16, 9)", x -> x.set(0, 16, 9));
         BAD_PIXEL.put("set(16, 16, 256)", x -> x.set(16, 16, 256));
         BAD_PIXEL.put("pixel(-1, 15)", x -> x.pixel(-1, 15));
+        BAD_PIXEL.put("pixel(16, 0)", x -> x.pixel(16, 0));
+        BAD_PIXEL.put("pixel(15, -1)", x -> x.pixel(15, -1));
         BAD_PIXEL.put("pixel(0, 16)", x -> x.pixel(0, 16));
         BAD_VALUE.put("set(0, 0, -1)", x -> x.set(0, 0, -1));
         BAD_VALUE.put("set(15, 15, 256)", x -> x.set(15, 15, 256));
-        BAD_SIZE.put("dilate(8, 7)", x -> x.dilate(8, 7));
-        BAD_SIZE.put("dilate(7, -1)", x -> x.dilate(7, -1));
-        BAD_SIZE.put("erode(8, 7)", x -> x.erode(8, 7));
-        BAD_SIZE.put("erode(7, -1)", x -> x.erode(7, -1));
-        BAD_SIZE.put("open(8, 7)", x -> x.open(8, 7));
-        BAD_SIZE.put("open(7, -1)", x -> x.open(7, -1));
-        BAD_SIZE.put("close(8, 7)", x -> x.close(8, 7));
-        BAD_SIZE.put("close(7, -1)", x -> x.close(7, -1));
-        BAD_SIZE.put("mean(8, 7)", x -> x.mean(8, 7));
-        BAD_SIZE.put("mean(7, -1)", x -> x.mean(7, -1));
+        putBadSizes("dilate", BoxFilters::dilate);
+        putBadSizes("erode", BoxFilters::erode);
+        putBadSizes("open", BoxFilters::open);
+        putBadSizes("close", BoxFilters::close);
+        putBadSizes("mean", BoxFilters::mean);
+    }
+
+    private static void putBadSizes(String name, FilterCheck.Filter filter) {
+        BAD_SIZE.put(name + "(-1, 7)", x -> filter.apply(x, -1, 7));
+        BAD_SIZE.put(name + "(8, 7)", x -> filter.apply(x, 8, 7));
+        BAD_SIZE.put(name + "(7, -1)", x -> filter.apply(x, 7, -1));
+        BAD_SIZE.put(name + "(7, 8)", x -> filter.apply(x, 7, 8));
     }
 
     public static void main(String[] args) {
