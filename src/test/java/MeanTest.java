@@ -34,7 +34,7 @@ public final class MeanTest {
         return byDistance[r + c];
     }
 
-    /** "rounded down": for every window of (7, 7), the sums next to how many pixels it has, and to twice as many. */
+    /** "rounded down": for every window around (7, 7), the sums next to how many pixels it has, and to twice as many. */
     private static void roundsDown(Check check) {
         for (int w = 0; w <= 7; w++) {
             for (int h = 0; h <= 7; h++) {
